@@ -35,19 +35,8 @@ public final class PromisesTest {
         answers.due(what, got, want);
     }
 
-    /** Empties the stack and puts the functions on it. */
-    private static void stand(FlameTree x, int... functions) {
-        while (x.leave() != -1) { }
-        for (int f : functions) x.call(f);
-    }
-
-    private static void sampleAt(FlameTree x, int weight, int... functions) {
-        stand(x, functions);
-        x.sample(weight);
-    }
-
     private static void promise1NewObject() {
-        FlameTree x = new FlameTree();
+        Counted x = new Counted();
         due("1: new total", x.total(), 0);
         due("1: new own", x.own(), 0);
         due("1: new hottest", x.hottest(), -1);
@@ -64,18 +53,18 @@ public final class PromisesTest {
     }
 
     private static void promise1ObjectsAreApart() {
-        FlameTree x = new FlameTree();
-        sampleAt(x, 5, 1, 2);
-        FlameTree y = new FlameTree();
+        Counted x = new Counted();
+        x.sampleAt(5, 1, 2);
+        Counted y = new Counted();
         due("1: second object leave", y.leave(), -1);
         due("1: second object total", y.total(), 0);
         due("1: second object sample", y.sample(9), 1);
-        stand(x);
+        x.stand();
         due("1: first object total", x.total(), 5);
     }
 
     private static void promise2Call() {
-        FlameTree x = new FlameTree();
+        Counted x = new Counted();
         for (int f : NO_FUNCTIONS) due("2: call " + f, x.call(f), -1);
         due("2: nothing was put on", x.leave(), -1);
         for (int i = 0; i < 8; i++) due("2: call " + (7 - i), x.call(7 - i), i + 1);
@@ -85,12 +74,12 @@ public final class PromisesTest {
         due("2: room again", x.call(5), 8);
         due("2: innermost", x.leave(), 5);
         due("2: the one before", x.leave(), 1);
-        FlameTree y = new FlameTree();
+        Counted y = new Counted();
         for (int i = 1; i <= 8; i++) due("2: the same function again", y.call(3), i);
     }
 
     private static void promise3Leave() {
-        FlameTree x = new FlameTree();
+        Counted x = new Counted();
         due("3: empty", x.leave(), -1);
         due("3: empty again", x.leave(), -1);
         due("3: call after empty leaves", x.call(4), 1);
@@ -105,7 +94,7 @@ public final class PromisesTest {
     }
 
     private static void promise4Sample() {
-        FlameTree x = new FlameTree();
+        Counted x = new Counted();
         for (int w : NO_WEIGHTS) due("4: sample " + w, x.sample(w), -1);
         due("4: none was taken", x.total(), 0);
         due("4: least weight", x.sample(1), 1);
@@ -116,7 +105,7 @@ public final class PromisesTest {
     }
 
     private static void promise4SampleIsACopy() {
-        FlameTree x = new FlameTree();
+        Counted x = new Counted();
         x.call(1);
         x.call(2);
         x.sample(10);
@@ -130,9 +119,9 @@ public final class PromisesTest {
     }
 
     private static void promise4FortySamples() {
-        FlameTree x = new FlameTree();
+        Counted x = new Counted();
         for (int i = 1; i <= 40; i++) {
-            stand(x, i % 8);
+            x.stand(i % 8);
             due("4: sample " + i, x.sample(100), i);
         }
         due("4: sample 41", x.sample(1), -1);
@@ -140,7 +129,7 @@ public final class PromisesTest {
         due("4: sample 43 with a wrong weight", x.sample(0), -1);
         due("4: total at the stack", x.total(), 500);
         due("4: exclusive", x.exclusive(0), 500);
-        stand(x);
+        x.stand();
         due("4: total of all", x.total(), 4000);
         due("4: full and another stack", x.sample(1), -1);
         due("4: own of none", x.own(), 0);
@@ -153,19 +142,19 @@ public final class PromisesTest {
     }
 
     /** 1:3, 1-2:5, 1-2-3:7, 2-1:11, 1-3:13, empty:17. */
-    private static FlameTree ordinary() {
-        FlameTree x = new FlameTree();
-        sampleAt(x, 3, 1);
-        sampleAt(x, 5, 1, 2);
-        sampleAt(x, 7, 1, 2, 3);
-        sampleAt(x, 11, 2, 1);
-        sampleAt(x, 13, 1, 3);
-        sampleAt(x, 17);
+    private static Counted ordinary() {
+        Counted x = new Counted();
+        x.sampleAt(3, 1);
+        x.sampleAt(5, 1, 2);
+        x.sampleAt(7, 1, 2, 3);
+        x.sampleAt(11, 2, 1);
+        x.sampleAt(13, 1, 3);
+        x.sampleAt(17);
         return x;
     }
 
     private static void promise5Total() {
-        FlameTree x = ordinary();
+        Counted x = ordinary();
         due("5: empty stack", x.total(), 56);
         x.call(1);
         due("5: at 1", x.total(), 28);
@@ -175,18 +164,18 @@ public final class PromisesTest {
         due("5: at 1-2-3", x.total(), 7);
         x.call(0);
         due("5: at 1-2-3-0, not in the tree", x.total(), 0);
-        stand(x, 2);
+        x.stand(2);
         due("5: at 2, a beginning only from the outermost", x.total(), 11);
-        stand(x, 3);
+        x.stand(3);
         due("5: at 3, never outermost", x.total(), 0);
-        stand(x, 2, 3);
+        x.stand(2, 3);
         due("5: at 2-3, only inside a copy", x.total(), 0);
-        stand(x, 0);
+        x.stand(0);
         due("5: at 0, not what a short copy leaves unset", x.total(), 0);
     }
 
     private static void promise6Own() {
-        FlameTree x = ordinary();
+        Counted x = ordinary();
         due("6: empty stack", x.own(), 17);
         x.sample(2);
         due("6: two empty copies", x.own(), 19);
@@ -198,14 +187,14 @@ public final class PromisesTest {
         due("6: at 1-2", x.own(), 5);
         x.call(0);
         due("6: at 1-2-0", x.own(), 0);
-        stand(x, 2);
+        x.stand(2);
         due("6: at 2, in the tree without own weight", x.own(), 0);
-        stand(x, 1, 3);
+        x.stand(1, 3);
         due("6: at 1-3", x.own(), 13);
-        stand(x, 3, 1);
+        x.stand(3, 1);
         due("6: at 3-1, the other order", x.own(), 0);
-        FlameTree y = new FlameTree();
-        sampleAt(y, 6, 0, 0, 0, 0, 0, 0, 0, 0);
+        Counted y = new Counted();
+        y.sampleAt(6, 0, 0, 0, 0, 0, 0, 0, 0);
         due("6: full stack", y.own(), 6);
         due("6: full stack total", y.total(), 6);
         y.leave();
@@ -214,7 +203,7 @@ public final class PromisesTest {
     }
 
     private static void promise7Hottest() {
-        FlameTree x = ordinary();
+        Counted x = ordinary();
         due("7: empty stack", x.hottest(), 1);
         x.call(1);
         due("7: at 1, by total", x.hottest(), 3);
@@ -228,41 +217,41 @@ public final class PromisesTest {
         due("7: at 1-2", x.hottest(), 3);
         x.call(3);
         due("7: at a leaf", x.hottest(), -1);
-        stand(x, 5);
+        x.stand(5);
         due("7: outside the tree", x.hottest(), -1);
-        stand(x, 2);
+        x.stand(2);
         due("7: at 2", x.hottest(), 1);
 
-        FlameTree y = new FlameTree();
-        sampleAt(y, 9, 6);
-        sampleAt(y, 5, 4, 1);
-        sampleAt(y, 5, 4, 2);
-        stand(y);
+        Counted y = new Counted();
+        y.sampleAt(9, 6);
+        y.sampleAt(5, 4, 1);
+        y.sampleAt(5, 4, 2);
+        y.stand();
         due("7: the sum beats the single sample", y.hottest(), 4);
-        stand(y, 4);
+        y.stand(4);
         due("7: of equals the least again", y.hottest(), 1);
     }
 
     private static void promise7HottestAtTheEdges() {
-        FlameTree x = new FlameTree();
+        Counted x = new Counted();
         x.sample(100);
         due("7: only an empty copy", x.hottest(), -1);
-        sampleAt(x, 1, 7);
-        stand(x);
+        x.sampleAt(1, 7);
+        x.stand();
         due("7: greatest function, least weight", x.hottest(), 7);
-        sampleAt(x, 1, 0);
-        stand(x);
+        x.sampleAt(1, 0);
+        x.stand();
         due("7: function 0", x.hottest(), 0);
 
-        FlameTree first = new FlameTree();
-        sampleAt(first, 2, 6);
-        sampleAt(first, 1, 3);
-        stand(first);
+        Counted first = new Counted();
+        first.sampleAt(2, 6);
+        first.sampleAt(1, 3);
+        first.stand();
         due("7: the first sample counts", first.hottest(), 6);
 
         // The copy behind this one must not be read as its ninth function.
-        FlameTree y = new FlameTree();
-        sampleAt(y, 5, 1, 1, 1, 1, 1, 1, 1, 1);
+        Counted y = new Counted();
+        y.sampleAt(5, 1, 1, 1, 1, 1, 1, 1, 1);
         y.sample(5);
         due("7: full stack", y.hottest(), -1);
         y.leave();
@@ -270,39 +259,39 @@ public final class PromisesTest {
     }
 
     private static void promise8Inclusive() {
-        FlameTree x = ordinary();
+        Counted x = ordinary();
         due("8: 1", x.inclusive(1), 39);
         due("8: 2", x.inclusive(2), 23);
         due("8: 3", x.inclusive(3), 20);
         due("8: 0, in no copy", x.inclusive(0), 0);
         due("8: 7, in no copy", x.inclusive(7), 0);
-        sampleAt(x, 50, 7, 4, 7, 7, 0);
+        x.sampleAt(50, 7, 4, 7, 7, 0);
         due("8: several times in one copy counts once", x.inclusive(7), 50);
         due("8: innermost 0", x.inclusive(0), 50);
-        sampleAt(x, 2, 1, 1, 1, 1, 1, 1, 1, 6);
+        x.sampleAt(2, 1, 1, 1, 1, 1, 1, 1, 6);
         due("8: eighth function", x.inclusive(6), 2);
         for (int f : NO_FUNCTIONS) due("8: inclusive " + f, x.inclusive(f), -1);
     }
 
     private static void promise9Exclusive() {
-        FlameTree x = ordinary();
+        Counted x = ordinary();
         due("9: 1", x.exclusive(1), 14);
         due("9: 2", x.exclusive(2), 5);
         due("9: 3, behind different paths", x.exclusive(3), 20);
         due("9: 0, an empty copy ends with nothing", x.exclusive(0), 0);
-        sampleAt(x, 4, 6, 6);
+        x.sampleAt(4, 6, 6);
         due("9: twice in one copy", x.exclusive(6), 4);
-        sampleAt(x, 2, 1, 1, 1, 1, 1, 1, 1, 7);
+        x.sampleAt(2, 1, 1, 1, 1, 1, 1, 1, 7);
         due("9: full copy", x.exclusive(7), 2);
         due("9: the seventh of a full copy", x.exclusive(1), 14);
         // An empty copy behind a full one must not be read as ending like it.
-        sampleAt(x, 30);
+        x.sampleAt(30);
         due("9: full copy, then an empty one", x.exclusive(7), 2);
         for (int f : NO_FUNCTIONS) due("9: exclusive " + f, x.exclusive(f), -1);
     }
 
     private static void promise10Edge() {
-        FlameTree x = ordinary();
+        Counted x = ordinary();
         due("10: 1-2", x.edge(1, 2), 12);
         due("10: 2-3", x.edge(2, 3), 7);
         due("10: 2-1", x.edge(2, 1), 11);
@@ -310,28 +299,28 @@ public final class PromisesTest {
         due("10: 3-1", x.edge(3, 1), 0);
         due("10: 1-1", x.edge(1, 1), 0);
         due("10: 0-0", x.edge(0, 0), 0);
-        sampleAt(x, 50, 4, 5, 4, 5, 4);
+        x.sampleAt(50, 4, 5, 4, 5, 4);
         due("10: twice in one copy counts once", x.edge(4, 5), 50);
         due("10: the other way", x.edge(5, 4), 50);
-        sampleAt(x, 6, 6, 6, 6);
+        x.sampleAt(6, 6, 6, 6);
         due("10: a function that calls itself", x.edge(6, 6), 6);
         for (int f : NO_FUNCTIONS) {
             due("10: edge " + f + " 1", x.edge(f, 1), -1);
             due("10: edge 1 " + f, x.edge(1, f), -1);
             due("10: edge " + f + " " + f, x.edge(f, f), -1);
         }
-        FlameTree y = new FlameTree();
-        sampleAt(y, 3, 2, 2, 2, 2, 2, 2, 0, 7);
-        sampleAt(y, 5, 1, 2);
+        Counted y = new Counted();
+        y.sampleAt(3, 2, 2, 2, 2, 2, 2, 0, 7);
+        y.sampleAt(5, 1, 2);
         due("10: the last two of a full copy", y.edge(0, 7), 3);
         due("10: from one copy into the next", y.edge(7, 1), 0);
         due("10: the first two", y.edge(1, 2), 5);
-        sampleAt(y, 8, 6);
+        y.sampleAt(8, 6);
         due("10: behind a copy's end", y.edge(6, 0), 0);
     }
 
     private static void promise11Paths() {
-        FlameTree x = ordinary();
+        Counted x = ordinary();
         // 1:28, 1-2:12, 1-2-3:7, 2:11, 2-1:11, 1-3:13
         due("11: all", x.paths(1), 6);
         due("11: 0 is taken as 1", x.paths(0), 6);
@@ -345,19 +334,19 @@ public final class PromisesTest {
         due("11: at least 28", x.paths(28), 1);
         due("11: at least 29, the empty row is no path", x.paths(29), 0);
         due("11: greatest int", x.paths(Integer.MAX_VALUE), 0);
-        sampleAt(x, 1, 1, 2, 3);
+        x.sampleAt(1, 1, 2, 3);
         due("11: the same path again", x.paths(1), 6);
         due("11: its total grew", x.paths(8), 6);
-        FlameTree y = new FlameTree();
-        sampleAt(y, 1, 0, 0);
-        sampleAt(y, 1, 0);
+        Counted y = new Counted();
+        y.sampleAt(1, 0, 0);
+        y.sampleAt(1, 0);
         due("11: a shorter copy of function 0", y.paths(1), 2);
         due("11: both go over 0", y.paths(2), 1);
     }
 
     /** Forty full copies that part at the fourth function at the latest. */
     private static void promise11PathsOfFortySamples() {
-        FlameTree x = new FlameTree();
+        Counted x = new Counted();
         x.call(0);
         x.call(0);
         for (int third = 0; third < 5; third++) {
@@ -381,7 +370,7 @@ public final class PromisesTest {
     }
 
     private static void promise12Deepest() {
-        FlameTree x = ordinary();
+        Counted x = ordinary();
         due("12: all", x.deepest(1), 3);
         due("12: 0 is taken as 1", x.deepest(0), 3);
         due("12: below 0 is taken as 1", x.deepest(-1), 3);
@@ -396,26 +385,26 @@ public final class PromisesTest {
     }
 
     private static void promise12DeepestAtTheEdges() {
-        FlameTree x = new FlameTree();
+        Counted x = new Counted();
         x.sample(100);
         due("12: only an empty copy", x.deepest(1), 0);
-        sampleAt(x, 1, 0, 0, 0, 0, 0, 0, 0, 0);
+        x.sampleAt(1, 0, 0, 0, 0, 0, 0, 0, 0);
         due("12: a full copy", x.deepest(1), 8);
-        sampleAt(x, 4, 3, 4);
+        x.sampleAt(4, 3, 4);
         due("12: the longest, not the last", x.deepest(1), 8);
         due("12: the heavier is shorter", x.deepest(4), 2);
-        sampleAt(x, 2, 0, 0, 0, 0, 0, 1);
+        x.sampleAt(2, 0, 0, 0, 0, 0, 1);
         due("12: two samples share five", x.deepest(3), 5);
         due("12: one alone has six", x.deepest(2), 6);
-        FlameTree y = new FlameTree();
-        sampleAt(y, 1, 5, 6, 7);
-        sampleAt(y, 1, 5);
+        Counted y = new Counted();
+        y.sampleAt(1, 5, 6, 7);
+        y.sampleAt(1, 5);
         due("12: the first sample counts", y.deepest(1), 3);
     }
 
     private static void refusedCallsChangeNothing() {
-        FlameTree x = ordinary();
-        stand(x, 1, 2);
+        Counted x = ordinary();
+        x.stand(1, 2);
         for (int f : NO_FUNCTIONS) {
             x.call(f);
             x.inclusive(f);
@@ -433,8 +422,8 @@ public final class PromisesTest {
     }
 
     private static void questionsChangeNothing() {
-        FlameTree x = ordinary();
-        stand(x, 1, 2);
+        Counted x = ordinary();
+        x.stand(1, 2);
         for (int i = 0; i < 3; i++) {
             due("asked again: total", x.total(), 12);
             due("asked again: own", x.own(), 5);
